@@ -91,16 +91,16 @@ public final class RuleShuttle {
         faultPlace = NONE;
         touched = false;
         tape = new Tape();
-        grammarReader = new GrammarReader(tape);
-        treeReader = new TreeReader(tape);
+        grammarReader = new GrammarReader();
+        treeReader = new TreeReader();
         hanging = new Hanging();
         plans = new Plans();
         shadows = new Shades();
         change = new Change();
         rules = new Grammar();
         spareRules = new Grammar();
-        wood = new Tree(rules);
-        spareWood = new Tree(rules);
+        wood = new Tree();
+        spareWood = new Tree();
         work = new Work();
         spareWork = new Work();
     }
@@ -126,13 +126,13 @@ public final class RuleShuttle {
             return refuse(WRONG_NUMBER);
         }
         tape.begin(n);
-        boolean good = grammarReader.read(spareRules);
+        boolean good = grammarReader.read(tape, spareRules);
         keepFault(good);
         if (!good) {
             return refuse(FAULTY);
         }
         swapRules();
-        wood.clear(rules);
+        wood.clear();
         touched = false;
         hanging.find(rules);
         plans.find(rules, hanging);
@@ -320,16 +320,16 @@ public final class RuleShuttle {
             return refuse(NO_GRAMMAR);
         }
         tape.begin(n);
-        spareWood.clear(rules);
-        boolean good = treeReader.read(spareWood, NONE, 0, NONE, 0);
+        spareWood.clear();
+        boolean good = treeReader.read(tape, rules, spareWood, NONE, 0, NONE, 0);
         keepFault(good);
         if (!good) {
             return refuse(FAULTY);
         }
-        spareWood.link();
+        spareWood.link(rules);
         swapWood();
         touched = false;
-        work.reckonAll(wood);
+        work.reckonAll(rules, wood);
         return answer(wood.count);
     }
 
@@ -351,14 +351,14 @@ public final class RuleShuttle {
             case 2:
                 return answer(wood.parent[k]);
             case 3:
-                return answer(wood.children(k));
+                return answer(wood.children[k]);
             case 7:
                 return answer(wood.size[k]);
             case 8:
                 return answer(wood.deep[k]);
             default:
                 int child = what - 3;
-                return child > wood.children(k) ? refuse(NOTHING) : answer(wood.child(k, child));
+                return child > wood.children[k] ? refuse(NOTHING) : answer(wood.child(k, child));
         }
     }
 
@@ -402,7 +402,7 @@ public final class RuleShuttle {
             return refuse(wrong);
         }
         int from = WIDTH * k + a;
-        return answer(what == 0 ? wood.need(from) : wood.reach(from));
+        return answer(what == 0 ? wood.need(from) : wood.reach(rules, from));
     }
 
     public int run(int what) {
@@ -415,7 +415,7 @@ public final class RuleShuttle {
         if (plans.block != NONE) {
             return refuse(NOT_ORDERED);
         }
-        int sum = what == 0 ? plans.count[wood.symbolOf(0)] : 0;
+        int sum = what == 0 ? plans.count[wood.symbolAt[0]] : 0;
         // A plan goes through all visits of its children, so each node's plan is gone through once as a whole.
         for (int k = 0; k < wood.count; k++) {
             sum += what == 0 ? plans.visitSteps[wood.prod[k]] : plans.ruleSteps[wood.prod[k]];
@@ -446,7 +446,7 @@ public final class RuleShuttle {
         wood.own[k] = number;
         change.begin(wood.count);
         if (was != number) {
-            change.markAskingOwn(wood, k);
+            change.markAskingOwn(rules, wood, k);
         }
         reckonAnew();
         return answer(was);
@@ -456,7 +456,7 @@ public final class RuleShuttle {
         if (wood.count == 0) {
             return refuse(NO_TREE);
         }
-        if (a < 0 || a >= wood.ins(0)) {
+        if (a < 0 || a >= wood.ins[0]) {
             return refuse(NO_SUCH);
         }
         int was = wood.given[a];
@@ -480,16 +480,17 @@ public final class RuleShuttle {
             return refuse(NO_SUCH);
         }
         tape.begin(n);
-        spareWood.copyAhead(wood, k);
+        spareWood.copyAhead(rules, wood, k);
         int behind = wood.count - k - wood.size[k];
-        boolean good = treeReader.read(spareWood, wood.parent[k], wood.place[k], wood.symbolOf(k), behind);
+        int due = wood.symbolAt[k];
+        boolean good = treeReader.read(tape, rules, spareWood, wood.parent[k], wood.place[k], due, behind);
         keepFault(good);
         if (!good) {
             return refuse(FAULTY);
         }
         int came = spareWood.count - k;
-        spareWood.copyBehind(wood, k, came);
-        spareWood.link();
+        spareWood.copyBehind(rules, wood, k, came);
+        spareWood.link(rules);
         change.beginGraft(wood.count, k, wood.size[k], came);
         change.markGraft(wood, spareWood, work.knots);
         swapWood();
@@ -557,12 +558,18 @@ public final class RuleShuttle {
         wood = read;
     }
 
+    private static void clearFlags(boolean[] flags) {
+        for (int i = 0; i < flags.length; i++) {
+            flags[i] = false;
+        }
+    }
+
     // The whole tree is reckoned: what is not to be reckoned anew comes out as it was.
     private void reckonAnew() {
         Work before = work;
         work = spareWork;
         spareWork = before;
-        work.reckonAll(wood);
+        work.reckonAll(rules, wood);
         change.tell(wood, work, before);
         touched = true;
     }
@@ -637,7 +644,9 @@ public final class RuleShuttle {
         }
 
         boolean isName() {
-            return kind == WORD && !isKept(content);
+            return kind == WORD && content != WORD_SYMBOL && content != WORD_PROD && content != WORD_RULE
+                    && content != WORD_IN && content != WORD_OUT && content != WORD_NUM && content != WORD_MAX
+                    && content != WORD_MIN && content != WORD_IF;
         }
 
         /** Tells an OCC from a number that stands alone. */
@@ -736,12 +745,6 @@ public final class RuleShuttle {
                 default:
                     return false;
             }
-        }
-
-        private static boolean isKept(long word) {
-            return word == WORD_SYMBOL || word == WORD_PROD || word == WORD_RULE || word == WORD_IN
-                    || word == WORD_OUT || word == WORD_NUM || word == WORD_MAX || word == WORD_MIN
-                    || word == WORD_IF;
         }
     }
 
@@ -912,17 +915,14 @@ public final class RuleShuttle {
 
     /** Reads a grammar's text, up to its first fault. */
     private static final class GrammarReader {
-        private final Tape tape;
+        private Tape tape;
         private Grammar g;
         private int p;
         private int occ;
         private int parts;
 
-        GrammarReader(Tape tape) {
-            this.tape = tape;
-        }
-
-        boolean read(Grammar into) {
+        boolean read(Tape from, Grammar into) {
+            tape = from;
             g = into;
             g.clear();
             boolean good = true;
@@ -1410,6 +1410,7 @@ public final class RuleShuttle {
             }
             return bits;
         }
+
         int step(int p, int i) {
             return i >= 0 && i < STEPS_MOST ? steps[STEPS_MOST * p + i] : NONE;
         }
@@ -1616,7 +1617,6 @@ public final class RuleShuttle {
 
     /** A tree's nodes, numbered from the root on, each ahead of its children, and their instances. */
     private static final class Tree {
-        private Grammar g;
         int count;
         final int[] prod = new int[NODES_MOST];
         final int[] own = new int[NODES_MOST];
@@ -1624,6 +1624,10 @@ public final class RuleShuttle {
         final int[] place = new int[NODES_MOST];
         final int[] deep = new int[NODES_MOST];
         final int[] size = new int[NODES_MOST];
+        final int[] symbolAt = new int[NODES_MOST];
+        final int[] ins = new int[NODES_MOST];
+        private final int[] attributes = new int[NODES_MOST];
+        final int[] children = new int[NODES_MOST];
         // The node itself and its children, as the positions of its production go.
         private final int[] positions = new int[NODES_MOST * SIDES_MOST];
         final int[] given = new int[SAME_MOST];
@@ -1636,46 +1640,46 @@ public final class RuleShuttle {
         private final int[] list = new int[INSTANCES];
         private int listed;
 
-        Tree(Grammar g) {
-            this.g = g;
-        }
-
-        void clear(Grammar rules) {
-            g = rules;
+        void clear() {
             count = 0;
             Arrays.fill(given, 0);
         }
 
-        void add(int p, int number, int over, int at) {
+        void add(Grammar g, int p, int number, int over, int at) {
             if (count < NODES_MOST) {
+                int s = g.side(p, 0);
                 prod[count] = p;
                 own[count] = number;
                 parent[count] = over;
                 place[count] = at;
                 deep[count] = over == NONE ? 0 : deep[over] + 1;
+                symbolAt[count] = s;
+                ins[count] = g.ins[s];
+                attributes[count] = g.ins[s] + g.outs[s];
+                children[count] = g.children(p);
                 count++;
             }
         }
 
-        void copyAhead(Tree from, int k) {
-            clear(from.g);
+        void copyAhead(Grammar g, Tree from, int k) {
+            count = 0;
             System.arraycopy(from.given, 0, given, 0, SAME_MOST);
             for (int i = 0; i < k; i++) {
-                add(from.prod[i], from.own[i], from.parent[i], from.place[i]);
+                add(g, from.prod[i], from.own[i], from.parent[i], from.place[i]);
             }
         }
 
         /** Adds the nodes that follow node k and all below it, for which others came. */
-        void copyBehind(Tree from, int k, int came) {
+        void copyBehind(Grammar g, Tree from, int k, int came) {
             int went = from.size[k];
             for (int i = k + went; i < from.count; i++) {
                 int over = from.parent[i];
-                add(from.prod[i], from.own[i], over < k ? over : over - went + came, from.place[i]);
+                add(g, from.prod[i], from.own[i], over < k ? over : over - went + came, from.place[i]);
             }
         }
 
         /** Finds, when all nodes are told, what is below each and who tells its instances. */
-        void link() {
+        void link(Grammar g) {
             Arrays.fill(size, 1);
             for (int k = count - 1; k >= 0; k--) {
                 positions[SIDES_MOST * k] = k;
@@ -1683,46 +1687,30 @@ public final class RuleShuttle {
                     positions[SIDES_MOST * parent[k] + place[k]] = k;
                     size[parent[k]] += size[k];
                 }
-                linkInstances(k);
+                linkInstances(g, k);
             }
         }
 
-        private void linkInstances(int k) {
-            int ins = ins(k);
+        private void linkInstances(Grammar g, int k) {
             for (int a = 0; a < WIDTH; a++) {
                 int i = WIDTH * k + a;
-                teller[i] = a < ins ? parent[k] : k;
-                occ[i] = a < ins ? WIDTH * place[k] + a : a;
+                boolean in = a < ins[k];
+                teller[i] = in ? parent[k] : k;
+                occ[i] = in ? WIDTH * place[k] + a : a;
                 asks[i] = teller[i] == NONE ? 0 : g.asks[OCCS * prod[teller[i]] + occ[i]];
             }
-        }
-
-        Grammar grammarOf() {
-            return g;
         }
 
         boolean hasNode(int k) {
             return k >= 0 && k < count;
         }
 
-        int symbolOf(int k) {
-            return g.side(prod[k], 0);
-        }
-
-        int children(int k) {
-            return g.children(prod[k]);
+        boolean hasInstance(int k, int a) {
+            return a >= 0 && a < attributes[k];
         }
 
         int child(int k, int position) {
             return positions[SIDES_MOST * k + position];
-        }
-
-        int ins(int k) {
-            return g.ins[symbolOf(k)];
-        }
-
-        boolean hasInstance(int k, int a) {
-            return g.hasAttribute(symbolOf(k), a);
         }
 
         /** The instance of an OCC of the production of node k. */
@@ -1738,7 +1726,7 @@ public final class RuleShuttle {
             return listed;
         }
 
-        int reach(int from) {
+        int reach(Grammar g, int from) {
             begin(from);
             for (int n = 0; n < listed && n < INSTANCES; n++) {
                 int k = list[n] / WIDTH;
@@ -1752,7 +1740,7 @@ public final class RuleShuttle {
         }
 
         private void begin(int from) {
-            Arrays.fill(seen, false);
+            clearFlags(seen);
             seen[from] = true;
             list[0] = from;
             listed = 1;
@@ -1774,25 +1762,22 @@ public final class RuleShuttle {
 
     /** Reads a tree's text, up to its first fault. */
     private static final class TreeReader {
-        private final Tape tape;
-        private Tree t;
+        private Tape tape;
         private Grammar g;
+        private Tree t;
         private int behind;
 
-        TreeReader(Tape tape) {
-            this.tape = tape;
-        }
-
         /** Adds to a tree a node for a place and all below it; so many nodes will follow them. */
-        boolean read(Tree into, int parent, int place, int symbol, int behind) {
+        boolean read(Tape from, Grammar rules, Tree into, int parent, int place, int symbol, int follow) {
+            tape = from;
+            g = rules;
             t = into;
-            g = into.grammarOf();
-            this.behind = behind;
+            behind = follow;
             int first = t.count;
             boolean good = readNode(parent, place, symbol);
             int k = first;
             for (int n = 0; n <= NODES_MOST && good; n++) {
-                boolean down = t.children(k) > 0;
+                boolean down = t.children[k] > 0;
                 k = down ? k : climb(k, first);
                 if (k == first && !down) {
                     return tape.kind == Tape.END || tape.fail(FAULT_PLACE);
@@ -1828,7 +1813,7 @@ public final class RuleShuttle {
             }
             tape.advance();
             boolean told = tape.kind == Tape.NUMBER;
-            t.add(p, told ? (int) tape.content : 0, parent, place);
+            t.add(g, p, told ? (int) tape.content : 0, parent, place);
             if (told) {
                 tape.advance();
             }
@@ -1848,7 +1833,7 @@ public final class RuleShuttle {
         }
 
         private boolean isLast(int k) {
-            return t.place[k] == t.children(t.parent[k]);
+            return t.place[k] == t.children[t.parent[k]];
         }
     }
 
@@ -2010,9 +1995,9 @@ public final class RuleShuttle {
         private Tree t;
         private Grammar g;
 
-        void reckonAll(Tree tree) {
+        void reckonAll(Grammar rules, Tree tree) {
+            g = rules;
             t = tree;
-            g = tree.grammarOf();
             knots.find(tree);
             for (int group = 0; group < knots.groups; group++) {
                 if (knots.tied[group]) {
@@ -2109,7 +2094,7 @@ public final class RuleShuttle {
         int altered;
 
         void begin(int nodes) {
-            Arrays.fill(marked, false);
+            clearFlags(marked);
             for (int k = 0; k < nodes; k++) {
                 stood[k] = k;
             }
@@ -2131,8 +2116,8 @@ public final class RuleShuttle {
             marked[i] = true;
         }
 
-        void markAskingOwn(Tree t, int k) {
-            int asking = t.grammarOf().askOwn[t.prod[k]];
+        void markAskingOwn(Grammar g, Tree t, int k) {
+            int asking = g.askOwn[t.prod[k]];
             for (int occ = 0; occ < OCCS; occ++) {
                 if ((asking >>> occ & 1) != 0) {
                     mark(t.instance(k, occ));
@@ -2145,7 +2130,7 @@ public final class RuleShuttle {
             for (int k = 0; k < after.count; k++) {
                 for (int a = 0; a < WIDTH; a++) {
                     if (after.hasInstance(k, a)) {
-                        boolean out = k == first && a >= after.ins(k);
+                        boolean out = k == first && a >= after.ins[k];
                         marked[WIDTH * k + a] = out || stood[k] == NONE || wasInGone(knots, WIDTH * stood[k] + a);
                     }
                 }
@@ -2153,7 +2138,7 @@ public final class RuleShuttle {
         }
 
         private void findGone(Tree before, Knots knots) {
-            Arrays.fill(gone, false);
+            clearFlags(gone);
             for (int i = WIDTH * first; i < WIDTH * (first + went); i++) {
                 if (before.hasInstance(i / WIDTH, i % WIDTH)) {
                     int group = knots.groupOf[i];
@@ -2167,7 +2152,7 @@ public final class RuleShuttle {
         }
 
         void tell(Tree t, Work after, Work before) {
-            Arrays.fill(other, false);
+            clearFlags(other);
             reckoned = 0;
             altered = 0;
             Knots knots = after.knots;
