@@ -104,6 +104,10 @@ public final class RealTest {
         String other = text.toString().replace(last, "prod pl:x x;rule pl 0.e=1.e|0.a|0.b|0.c|0.d;");
         c.due("twelve productions", c.grammar(other), 12);
         c.due("twelve shades", c.x.shades(0), 12);
+        String one = "prod pl:x x;rule pl 1.b=0.b;rule pl 1.c=0.c;rule pl 0.e=1.e|0.d;";
+        c.due("twelve productions", c.grammar(text.toString().replace(last, one)), 12);
+        c.refused("thirteen shades", c.x.shades(0), 6);
+        c.refused("real", c.x.real(3), 6);
         String many = "prod pl:x x;rule pl 1.a=0.a;rule pl 1.b=0.b;rule pl 1.c=0.c;rule pl 0.e=1.e|0.d;";
         c.due("twelve productions", c.grammar(text.toString().replace(last, many)), 12);
         c.refused("more shades", c.x.shades(0), 6);
