@@ -235,10 +235,10 @@ public final class RuleShuttle {
         if (rules.symbols == 0) {
             return refuse(NO_GRAMMAR);
         }
-        if (what >= hanging.circleLength || hanging.circleLength == 0) {
+        if (hanging.circleOcc == NONE || what > 0) {
             return refuse(NOTHING);
         }
-        return answer(what == NONE ? hanging.circleProduction : hanging.circleOccs[what]);
+        return answer(what == NONE ? hanging.circleProduction : hanging.circleOcc);
     }
 
     public int visit(int s, int a) {
@@ -1178,11 +1178,9 @@ public final class RuleShuttle {
     private static final class Hanging {
         final int[] among = new int[SYMBOLS_MOST * WIDTH];
         final int[] closed = new int[PRODUCTIONS_MOST * OCCS];
-        private final int[] near = new int[OCCS];
-        private final int[] far = new int[OCCS];
-        final int[] circleOccs = new int[OCCS];
+        // What hangs on itself, closed, is induced on itself: no circle has more than the OCC it begins with.
         int circleProduction;
-        int circleLength;
+        int circleOcc;
 
         void find(Grammar g) {
             Arrays.fill(among, 0);
@@ -1191,7 +1189,7 @@ public final class RuleShuttle {
             for (int round = 0; round <= SYMBOLS_MOST * WIDTH * WIDTH && more; round++) {
                 more = false;
                 for (int p = 0; p < g.prods; p++) {
-                    layRows(g, p, closed, OCCS * p);
+                    layRows(g, p);
                     close(closed, OCCS * p, WIDTH * g.sides[p]);
                     more |= gather(g, p);
                 }
@@ -1211,11 +1209,11 @@ public final class RuleShuttle {
             }
         }
 
-        private void layRows(Grammar g, int p, int[] rows, int from) {
+        private void layRows(Grammar g, int p) {
             for (int occ = 0; occ < WIDTH * g.sides[p]; occ++) {
                 int position = occ / WIDTH;
                 int inside = among[WIDTH * g.side(p, position) + occ % WIDTH];
-                rows[from + occ] = g.asks[OCCS * p + occ] | inside << WIDTH * position;
+                closed[OCCS * p + occ] = g.asks[OCCS * p + occ] | inside << WIDTH * position;
             }
         }
 
@@ -1242,58 +1240,18 @@ public final class RuleShuttle {
         }
 
         private void findCircle(Grammar g) {
-            circleLength = 0;
-            circleProduction = NONE;
-            for (int p = 0; p < g.prods && circleLength == 0; p++) {
-                int first = firstRound(closed, OCCS * p, WIDTH * g.sides[p]);
-                if (first != NONE) {
-                    circleProduction = p;
-                    layRows(g, p, near, 0);
-                    measure(first, WIDTH * g.sides[p]);
-                    walk(first, WIDTH * g.sides[p]);
-                }
+            circleOcc = NONE;
+            for (int p = 0; p < g.prods && circleOcc == NONE; p++) {
+                circleProduction = p;
+                circleOcc = firstRound(closed, OCCS * p, WIDTH * g.sides[p]);
             }
-        }
-
-        // How many steps each OCC is away from the one sought, one at least.
-        private void measure(int sought, int many) {
-            Arrays.fill(far, 0);
-            int rim = 1 << sought;
-            for (int steps = 1; steps <= OCCS && rim != 0; steps++) {
-                int wider = 0;
-                for (int occ = 0; occ < many; occ++) {
-                    if (far[occ] == 0 && (near[occ] & rim) != 0) {
-                        far[occ] = steps;
-                        wider |= 1 << occ;
-                    }
-                }
-                rim = wider;
-            }
-        }
-
-        private void walk(int first, int many) {
-            int here = first;
-            for (int left = far[first]; left > 0 && circleLength < OCCS && here != NONE; left--) {
-                circleOccs[circleLength] = here;
-                circleLength++;
-                here = firstNear(here, left - 1, many);
-            }
-        }
-
-        private int firstNear(int here, int steps, int many) {
-            for (int occ = 0; occ < many; occ++) {
-                if ((near[here] >>> occ & 1) != 0 && far[occ] == steps) {
-                    return occ;
-                }
-            }
-            return NONE;
         }
     }
 
     /** The visits of each symbol, whether all productions bear them, and the plans then. */
     private static final class Plans {
         // 16 rules, 5 visits of each of 3 children, 5 times to leave.
-        private static final int STEPS_MOST = 40;
+        private static final int STEPS_MOST = 36;
         private static final int LEAVE = 1000;
         private static final int RULE = 100;
         private static final int CHILD = 10;
@@ -1424,7 +1382,7 @@ public final class RuleShuttle {
             int visit = 1;
             known = during(g, left, 1) & g.insOf(left);
             Arrays.fill(done, 0);
-            for (int n = 0; n < STEPS_MOST - 1; n++) {
+            for (int n = 0; n < STEPS_MOST; n++) {
                 int outs = during(g, left, visit) & g.outsOf(left);
                 if (visit < last && (outs & ~known) == 0) {
                     add(p, LEAVE + visit);
@@ -1984,8 +1942,8 @@ public final class RuleShuttle {
 
     /** The values of a tree's instances. */
     private static final class Work {
-        // Six brackets, each with a left operand and two values of an if ahead, and the last.
-        private static final int PILE_MOST = 32;
+        // Six brackets, each with a left operand and two values of an if ahead, and the two of the last.
+        private static final int PILE_MOST = 20;
 
         final Knots knots = new Knots();
         final int[] values = new int[INSTANCES];

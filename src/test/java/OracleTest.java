@@ -5,12 +5,22 @@ import java.util.Random;
 
 /** All promises: runs of calls by chance, always the same ones, each answer held against the Oracle's. */
 public final class OracleTest {
+    private static int shown;
+
     private final Random random;
     private final long seed;
     private RuleShuttle x = new RuleShuttle();
     private Oracle o = new Oracle();
     private final StringBuilder told = new StringBuilder();
     private boolean wrong;
+
+    private record Change(String name, int[] v) {
+    }
+
+    private final List<Change> head = new ArrayList<>();
+    private final List<Change> tail = new ArrayList<>();
+    private final List<Change> fed = new ArrayList<>();
+    private int calls;
 
     // What is known of the grammar that was generated last, to tell trees of it.
     private final List<int[]> syms = new ArrayList<>();
@@ -40,49 +50,58 @@ public final class OracleTest {
     }
 
     private int call(String name, int... v) {
-        int got = direct(name, v);
+        int got = Calls.call(x, name, v);
+        calls += 2;
         int want = o.call(name, v);
-        int status = x.status();
         told.append(name).append(Arrays.toString(v)).append(" -> ").append(want).append('\n');
+        boolean tells = !name.equals("feed") && !name.equals("fault");
+        int status = tells ? x.status() : o.call("status");
         if (!wrong && (got != want || status != o.call("status"))) {
             wrong = true;
-            System.out.println("seed " + seed + "\n" + told + "but answered " + got + " with STATUS " + status
+            int from = shown++ < 3 ? Math.max(0, told.length() - 4000) : told.length();
+            System.out.println("seed " + seed + "\n" + told.substring(from) + "but answered " + got + " with STATUS " + status
                     + ", not " + want + " with " + o.call("status"));
+        }
+        keep(name, v);
+        if (calls > Check.CALLS_MOST - 10) {
+            again();
         }
         return want;
     }
 
-    private int direct(String name, int[] v) {
-        return switch (name) {
-            case "status" -> x.status();
-            case "feed" -> x.feed(v[0], v[1], v[2], v[3], v[4]);
-            case "fault" -> x.fault(v[0]);
-            case "grammar" -> x.grammar(v[0]);
-            case "many" -> x.many(v[0]);
-            case "symbol" -> x.symbol(v[0], v[1]);
-            case "production" -> x.production(v[0], v[1]);
-            case "hangs" -> x.hangs(v[0], v[1], v[2], v[3]);
-            case "induced" -> x.induced(v[0], v[1], v[2]);
-            case "circle" -> x.circle(v[0]);
-            case "visit" -> x.visit(v[0], v[1]);
-            case "ordered" -> x.ordered(v[0]);
-            case "plan" -> x.plan(v[0], v[1]);
-            case "real" -> x.real(v[0]);
-            case "shades" -> x.shades(v[0]);
-            case "tree" -> x.tree(v[0]);
-            case "node" -> x.node(v[0], v[1]);
-            case "value" -> x.value(v[0], v[1]);
-            case "knot" -> x.knot(v[0], v[1], v[2]);
-            case "span" -> x.span(v[0], v[1], v[2]);
-            case "run" -> x.run(v[0]);
-            case "longest" -> x.longest();
-            case "put" -> x.put(v[0], v[1]);
-            case "give" -> x.give(v[0], v[1]);
-            case "graft" -> x.graft(v[0], v[1]);
-            case "anew" -> x.anew(v[0]);
-            case "digest" -> x.digest();
-            default -> throw new IllegalArgumentException(name);
-        };
+    // What made the object what it is: the latest grammar, the latest tree, and what came behind it.
+    private void keep(String name, int[] v) {
+        Change change = new Change(name, v.clone());
+        if (name.equals("feed")) {
+            fed.add(change);
+            return;
+        }
+        int status = o.call("status");
+        boolean reads = List.of("grammar", "tree", "graft").contains(name) && (status == 0 || status == 9);
+        if (!reads && !name.equals("put") && !name.equals("give")) {
+            return;
+        }
+        if (name.equals("grammar") && status == 0) {
+            head.clear();
+        }
+        if ((name.equals("grammar") || name.equals("tree")) && status == 0) {
+            tail.clear();
+        }
+        List<Change> into = name.equals("grammar") && status == 0 ? head : tail;
+        if (reads) {
+            into.addAll(fed);
+            fed.clear();
+        }
+        into.add(change);
+    }
+
+    // Calls behind the 512th answer what they like: another object takes over, brought to where this one is.
+    private void again() {
+        x = new RuleShuttle();
+        calls = head.size() + tail.size() + fed.size();
+        head.forEach(c -> Calls.call(x, c.name, c.v));
+        tail.forEach(c -> Calls.call(x, c.name, c.v));
+        fed.forEach(c -> Calls.call(x, c.name, c.v));
     }
 
     private int chance(int n) {
