@@ -130,6 +130,19 @@ final class Check {
         same("fault(1) of " + text, x.fault(1), place);
     }
 
+    /** A text with a ^ ahead of the token at which it has its fault. */
+    void grammarFaultAt(int kind, String marked) {
+        grammarFault(marked.replace("^", ""), kind, marked.indexOf('^'));
+    }
+
+    void treeFaultAt(int kind, String marked) {
+        treeFault(marked.replace("^", ""), kind, marked.indexOf('^'));
+    }
+
+    void graftFaultAt(int k, int kind, String marked) {
+        graftFault(k, marked.replace("^", ""), kind, marked.indexOf('^'));
+    }
+
     /** Whether an object that is asked besides is then as one that is not. */
     void untouched(String label, Consumer<RuleShuttle> before, Consumer<RuleShuttle> asking) {
         RuleShuttle one = new RuleShuttle();
