@@ -33,7 +33,8 @@ final class Look {
             seen.append(' ').append(i);
         }
         seen.append(": ").append(answer);
-        if (answer == RuleShuttle.NONE) {
+        // fault() has no STATUS: what status() tells is of an earlier call.
+        if (answer == RuleShuttle.NONE && !name.equals("fault")) {
             seen.append(" STATUS ").append(x.status());
         }
         seen.append('\n');
