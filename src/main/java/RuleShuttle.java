@@ -133,7 +133,6 @@ public final class RuleShuttle {
         }
         swapRules();
         wood.clear();
-        touched = false;
         hanging.find(rules);
         plans.find(rules, hanging);
         shadows.forget();
@@ -564,13 +563,12 @@ public final class RuleShuttle {
         }
     }
 
-    // The whole tree is reckoned: what is not to be reckoned anew comes out as it was.
     private void reckonAnew() {
         Work before = work;
         work = spareWork;
         spareWork = before;
-        work.reckonAll(rules, wood);
-        change.tell(wood, work, before);
+        work.begin(rules, wood);
+        change.reckon(wood, work, before);
         touched = true;
     }
 
@@ -776,6 +774,7 @@ public final class RuleShuttle {
             codes = 0;
             Arrays.fill(asks, 0);
             Arrays.fill(askedBy, 0);
+            // What has no rule has no code: it ends where it begins.
             Arrays.fill(codeFrom, 0);
             Arrays.fill(codeTo, 0);
         }
@@ -1463,7 +1462,8 @@ public final class RuleShuttle {
             return sum;
         }
 
-        // Sought once for a grammar, when it is first asked for.
+        // Sought once for a grammar, when it is first asked for. Behind a symbol's thirteenth shade nothing can be told:
+        // a circle of that round, too, would come too late.
         void seek(Grammar g) {
             if (known) {
                 return;
@@ -1485,13 +1485,10 @@ public final class RuleShuttle {
         }
 
         private void begin() {
-            Arrays.fill(have, 0);
             Arrays.fill(count, 0);
             circles = false;
             overflow = false;
-            rounds = 0;
             circleRound = 0;
-            circleTotal = 0;
         }
 
         private void goRound(Grammar g, int round) {
@@ -1500,20 +1497,18 @@ public final class RuleShuttle {
                 have[s] = count[s];
             }
             for (int p = 0; p < g.prods; p++) {
-                if (g.children(p) == 0) {
-                    if (round == 1) {
-                        cast(g, p, 0, 0, 0);
-                    }
-                } else if (round > 1) {
+                if (g.children(p) > 0) {
                     castEach(g, p);
+                } else if (round == 1) {
+                    cast(g, p, 0, 0, 0);
                 }
             }
         }
 
         private void castEach(Grammar g, int p) {
-            for (int i = 0; i < choices(g, p, 1); i++) {
-                for (int j = 0; j < choices(g, p, 2); j++) {
-                    for (int k = 0; k < choices(g, p, 3); k++) {
+            for (int i = 0; i < choices(g, p, 1) && !overflow; i++) {
+                for (int j = 0; j < choices(g, p, 2) && !overflow; j++) {
+                    for (int k = 0; k < choices(g, p, 3) && !overflow; k++) {
                         // What is old at all positions was cast in an earlier round.
                         if (isNew(g, p, 1, i) || isNew(g, p, 2, j) || isNew(g, p, 3, k)) {
                             cast(g, p, i, j, k);
@@ -1953,21 +1948,26 @@ public final class RuleShuttle {
         private Tree t;
         private Grammar g;
 
-        void reckonAll(Grammar rules, Tree tree) {
+        void begin(Grammar rules, Tree tree) {
             g = rules;
             t = tree;
             knots.find(tree);
+        }
+
+        void reckonAll(Grammar rules, Tree tree) {
+            begin(rules, tree);
             for (int group = 0; group < knots.groups; group++) {
-                if (knots.tied[group]) {
-                    iterate(group);
-                } else {
-                    int i = knots.first(group);
-                    values[i] = reckon(i);
-                }
+                reckonGroup(group);
             }
         }
 
-        private void iterate(int group) {
+        /** What the group hangs on besides must be reckoned. */
+        void reckonGroup(int group) {
+            if (!knots.tied[group]) {
+                int i = knots.first(group);
+                values[i] = reckon(i);
+                return;
+            }
             int size = knots.size(group);
             for (int m = 0; m < size; m++) {
                 values[knots.member(group, m)] = 0;
@@ -2087,9 +2087,9 @@ public final class RuleShuttle {
             findGone(before, knots);
             for (int k = 0; k < after.count; k++) {
                 for (int a = 0; a < WIDTH; a++) {
-                    if (after.hasInstance(k, a)) {
+                    if (after.hasInstance(k, a) && !isNew(k)) {
                         boolean out = k == first && a >= after.ins[k];
-                        marked[WIDTH * k + a] = out || stood[k] == NONE || wasInGone(knots, WIDTH * stood[k] + a);
+                        marked[WIDTH * k + a] = out || gone[knots.groupOf[WIDTH * stood[k] + a]];
                     }
                 }
             }
@@ -2105,25 +2105,33 @@ public final class RuleShuttle {
             }
         }
 
-        private boolean wasInGone(Knots knots, int i) {
-            return gone[knots.groupOf[i]];
+        private boolean isNew(int k) {
+            return stood[k] == NONE;
         }
 
-        void tell(Tree t, Work after, Work before) {
+        /** Goes through the groups: each is reckoned anew, or it is the one that was there ahead of the change. */
+        void reckon(Tree t, Work after, Work before) {
             clearFlags(other);
             reckoned = 0;
             altered = 0;
-            Knots knots = after.knots;
-            for (int group = 0; group < knots.groups; group++) {
-                boolean anyone = false;
-                for (int m = 0; m < knots.size(group); m++) {
-                    int i = knots.member(group, m);
-                    anyone |= marked[i] || hangsOnOther(t, i);
-                }
-                for (int m = 0; m < knots.size(group) && anyone; m++) {
-                    compare(knots.member(group, m), after, before);
+            for (int group = 0; group < after.knots.groups; group++) {
+                if (isAnew(t, after.knots, group)) {
+                    after.reckonGroup(group);
+                    count(group, after, before);
+                } else {
+                    keep(group, after, before);
                 }
             }
+        }
+
+        private boolean isAnew(Tree t, Knots knots, int group) {
+            for (int m = 0; m < knots.size(group); m++) {
+                int i = knots.member(group, m);
+                if (marked[i] || isNew(i / WIDTH) || hangsOnOther(t, i)) {
+                    return true;
+                }
+            }
+            return false;
         }
 
         private boolean hangsOnOther(Tree t, int i) {
@@ -2137,13 +2145,28 @@ public final class RuleShuttle {
             return false;
         }
 
-        private void compare(int i, Work after, Work before) {
-            int was = stood[i / WIDTH];
-            reckoned++;
-            other[i] = was == NONE || after.values[i] != before.values[WIDTH * was + i % WIDTH];
-            if (other[i]) {
-                altered++;
+        private void count(int group, Work after, Work before) {
+            for (int m = 0; m < after.knots.size(group); m++) {
+                int i = after.knots.member(group, m);
+                reckoned++;
+                other[i] = isNew(i / WIDTH) || after.values[i] != before.values[stoodFor(i)];
+                altered += other[i] ? 1 : 0;
             }
+        }
+
+        private void keep(int group, Work after, Work before) {
+            for (int m = 0; m < after.knots.size(group); m++) {
+                int i = after.knots.member(group, m);
+                after.values[i] = before.values[stoodFor(i)];
+            }
+            int was = before.knots.groupOf[stoodFor(after.knots.first(group))];
+            after.turns[group] = before.turns[was];
+            after.unsettled[group] = before.unsettled[was];
+        }
+
+        // Of an instance whose node is no new one.
+        private int stoodFor(int i) {
+            return WIDTH * stood[i / WIDTH] + i % WIDTH;
         }
     }
 }

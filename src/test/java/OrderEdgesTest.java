@@ -205,6 +205,7 @@ public final class OrderEdgesTest {
             c.refused("on no OCC " + occ, c.x.hangs(0, 0, occ, 0), 4);
         }
         c.due("the last OCC of t", c.x.hangs(1, 1, 8, 2), 0);
+        c.refused("no OCC 2 of t", c.x.hangs(1, 2, 8, 2), 4);
         c.due("the last OCC of q", c.x.hangs(1, 15, 0, 2), 0);
         c.refused("no third ATTRIBUTE of t", c.x.hangs(1, 2, 0, 0), 4);
         c.refused("no position 2 of q", c.x.hangs(1, 0, 16, 0), 4);
@@ -236,6 +237,16 @@ public final class OrderEdgesTest {
             c.refused("plan", c.x.plan(n, 0), 4);
             c.refused("shades", c.x.shades(n), 4);
         }
+        c.grammar("symbol s;symbol t in i;prod p:s t s;");
+        for (int occ = 0; occ < 32; occ++) {
+            if (occ == 8) {
+                c.due("its only OCC", c.x.hangs(0, occ, occ, 0), 0);
+            } else {
+                c.refused("no OCC " + occ, c.x.hangs(0, occ, 8, 0), 4);
+            }
+        }
+        c.refused("no ATTRIBUTE of s", c.x.induced(0, 0, 0), 4);
+        c.refused("no ATTRIBUTE of s", c.x.visit(0, 0), 4);
     }
 
     // ---- circles that may be

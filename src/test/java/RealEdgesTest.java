@@ -158,18 +158,20 @@ public final class RealEdgesTest {
 
     // "SHADES found in ROUNDS ahead": one of them of the latest ROUND, the others of earlier ones, at any POSITION.
     private static void newAtOnePosition(Check c) {
-        String x = "symbol s;symbol x in a out b;symbol y in a out b;prod n:x;rule n 0.b=0.a;prod m:y;prod u:y x;"
-                + "rule u 1.a=0.a;rule u 0.b=1.b;";
+        // x and s have three SHADES by ROUND 1, y one, and by ROUND 2 that of x's n.
+        String head = "symbol s in i j out o;symbol x in a c out b;symbol y in a out b;prod sa:s;prod sb:s;rule sb 0.o=0.i;prod sc:s;"
+                + "rule sc 0.o=0.j;prod k:x;prod l:x;rule l 0.b=0.c;prod n:x;rule n 0.b=0.a;prod m:y;prod u:y x;rule u 1.a=0.a;"
+                + "rule u 0.b=1.b;";
         for (String sides : new String[] {"y x x", "x y x", "x x y", "y y x", "y x y", "x y y", "y y y"}) {
-            String text = x + "prod p:s " + sides + ";rule p 1.a=2.b;rule p 2.a=3.b;rule p 3.a=1.b;";
-            real(c, text, 3, 3, 4);
-            shades(c, 1, 1, 2);
-            real(c, text.replace("rule n 0.b=0.a;", ""), 0, 3, 3);
+            String text = head + "prod p:s " + sides + ";rule p 1.a=2.b;rule p 2.a=3.b;rule p 3.a=1.b;";
+            real(c, text, 3, 3, 8);
+            shades(c, 3, 3, 2);
+            real(c, text.replace("rule n 0.b=0.a;", ""), 0, 2, 6);
         }
         for (String sides : new String[] {"y x", "x y", "y y"}) {
-            real(c, x + "prod p:s " + sides + ";rule p 1.a=2.b;rule p 2.a=1.b;", 3, 3, 4);
+            real(c, head + "prod p:s " + sides + ";rule p 1.a=2.b;rule p 2.a=1.b;", 3, 3, 8);
         }
-        real(c, x + "prod p:s y;rule p 1.a=1.b;", 3, 3, 4);
+        real(c, head + "prod p:s y;rule p 1.a=1.b;", 3, 3, 8);
     }
 
     // "in a PRODUCTION, with SHADES of its CHILDREN, an OCC hangs on itself": any one that there is.

@@ -303,12 +303,20 @@ public final class TextEdgesTest {
         c.due("the last one", c.x.production(11, 0), 0);
         c.refused("a thirteenth", c.x.production(12, 0), 4);
         c.due("all of s", c.x.symbol(0, 2), 12);
+        c.due("no RULES", c.x.many(2), 0);
         c.grammarFaultAt(6, S + productions(12) + "^prod m:s;");
         c.grammarFaultAt(6, S + productions(12) + "^prod");
         c.grammarFaultAt(6, S + productions(12) + "^prod a:t;");
         c.grammarFaultAt(6, S + productions(12) + "rule l 0.b=1;^prod m:s;");
         c.told(S + productions(12) + "rule l 0.b=1;symbol t;", 12);
         c.due("a RULE of the last one", c.x.production(11, 5), 1);
+        c.due("the only one", c.x.many(2), 1);
+        // Fewer ones later: the RULES of those that went count no more.
+        for (int times = 0; times < 3; times++) {
+            c.due("one", c.grammar(S + "prod p:s;rule p 0.b=1;"), 1);
+            c.due("its RULE", c.x.many(2), 1);
+            c.refused("no other", c.x.production(1, 5), 4);
+        }
     }
 
     // "of each SYMBOL 4 ATTRIBUTES in, 4 out", "a fifth in or out .. (at it)"

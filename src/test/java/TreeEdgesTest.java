@@ -608,6 +608,13 @@ public final class TreeEdgesTest {
         run(c, two, "p(n)", 3, 2);
         run(c, two, "p(m(m(n)))", 7, 6);
         run(c, two, "m(n)", 4, 3);
+        // Of another GRAMMAR, in place of that.
+        for (int times = 0; times < 2; times++) {
+            c.grammar(CHAIN);
+            c.tree("b(e,e)");
+            c.due("VISITS", c.x.run(0), 3);
+            c.due("RULES", c.x.run(1), 5);
+        }
         c.fresh();
         c.grammar("symbol s out v;prod p:s;rule p 0.v=0.v;");
         c.tree("p");
