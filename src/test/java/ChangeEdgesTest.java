@@ -346,10 +346,18 @@ public final class ChangeEdgesTest {
         // Unsettled ones, too, stay as they are.
         plant(c, "symbol s in i out u v;prod p:s;prod q:s s;rule q 1.i=0.i;rule p 0.u=0.u+1;rule p 0.v=num;rule q 0.u=0.u*3+1;",
                 "q(p)");
-        put(c, 1, 5, 0, 1, 1);
-        c.due("64", c.x.value(1, 1), 64);
+        int root = c.x.value(0, 1);
+        for (int number = 5; number < 8; number++) {
+            put(c, 1, number, number == 5 ? 0 : number - 1, 1, 1);
+            c.due("64", c.x.value(1, 1), 64);
+            for (int k = 0; k < 2; k++) {
+                c.due("TURNS", c.x.knot(k, 1, 1), 64);
+                c.due("UNSETTLED", c.x.knot(k, 1, 2), 1);
+            }
+        }
         graft(c, 1, "p", 2, 2, 1);
         c.due("64", c.x.value(1, 1), 64);
+        c.due("the root's", c.x.value(0, 1), root);
         c.due("the root's", c.x.knot(0, 1, 2), 1);
     }
 

@@ -402,6 +402,17 @@ public final class OrderEdgesTest {
                 + "2>10 2>8 1>10 1>8 3>10 3>8");
         // Ins of one VISIT don't hang on one another, nor outs.
         pairs(c, "symbol s in a b out c d;prod p:s;", 0, 2, "2>0 2>1 3>0 3>1");
+        pairs(c, "symbol s in a b c out d;prod p:s;", 0, 2, "3>0 3>1 3>2");
+        pairs(c, "symbol s in a out b c d;prod p:s;", 0, 2, "1>0 2>0 3>0");
+        pairs(c, "symbol s in a b c d;prod p:s s;", 0, 2, "");
+        pairs(c, "symbol s out a b c d;prod p:s s;", 0, 2, "");
+        // With three outs of the first VISIT, and with three ins.
+        pairs(c, "symbol s;symbol x in a out b c d;prod n:x;prod p:s x;rule p 1.a=1.b+1.c+1.d;", 0, 2, "0>1 0>2 0>3");
+        // j, on which nothing hangs, hangs on them by VISITS alone.
+        pairs(c, "symbol s;symbol x in a j out b c d;prod n:x;prod p:s x;rule p 1.a=1.b+1.c+1.d;", 0, 2,
+                "0>2 0>3 0>4 1>2 1>3 1>4");
+        pairs(c, "symbol s;symbol x in a b c out d;prod n:x;prod p:s x;rule p 1.a=1.d;rule p 1.b=1.d;rule p 1.c=1.d;", 0, 2,
+                "0>3 1>3 2>3");
         // An out VISIT alone is ahead of all.
         pairs(c, "symbol s;symbol x in a b out c d;prod n:x;prod p:s x;rule p 1.a=1.c;", 0, 2, "0>2 1>2 3>0 3>1 3>2");
         // What is CLOSED besides stays.

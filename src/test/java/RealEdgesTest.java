@@ -108,6 +108,17 @@ public final class RealEdgesTest {
         }
         real(c, text.toString(), 0, 2, 9);
         shades(c, 9);
+        // Of four outs and one in, of one out and four ins: h on a, g on a, then none, as m has no RULE of h.
+        String few = "symbol s;symbol x in a out e f g h;prod n:x;rule n 0.h=0.a;prod m:x x;rule m 1.a=0.a;rule m 0.g=1.h;";
+        real(c, few, 0, 4, 3);
+        real(c, few + "prod p:s x;rule p 1.a=1.h;", 2, 2, 3);
+        real(c, few + "prod p:s x;rule p 1.a=1.g;", 3, 3, 4);
+        real(c, few + "prod p:s x;rule p 1.a=1.f;", 0, 4, 4);
+        String many = "symbol s;symbol x in a b c d out e;prod n:x;rule n 0.e=0.d;prod m:x x;rule m 1.d=0.c;rule m 0.e=1.e;";
+        real(c, many, 0, 4, 3);
+        real(c, many + "prod p:s x;rule p 1.d=1.e;", 2, 2, 3);
+        real(c, many + "prod p:s x;rule p 1.c=1.e;", 3, 3, 4);
+        real(c, many + "prod p:s x;rule p 1.b=1.e;", 0, 4, 4);
         // What outs hang on of one another is none.
         real(c, x + "prod p:x;prod q:x;rule q 0.e=0.f;prod r:x;rule r 0.f=0.e+0.g;", 0, 2, 1);
         // Nor what a SYMBOL without ins or without outs has.

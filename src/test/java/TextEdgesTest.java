@@ -16,6 +16,8 @@ public final class TextEdgesTest {
         asLongAsTheyGo(c);
         wordsOfEight(c);
         numbersOfFour(c);
+        everyNumber(c);
+        numbersAreNoSigns(c);
         oneLineAtLeast(c);
         symbolLines(c);
         prodLines(c);
@@ -129,6 +131,43 @@ public final class TextEdgesTest {
         c.grammarFaultAt(1, R + "^00001.b;");
         c.told(P + "rule p 0000.b=0001.b;", 1);
         c.due("position 1 by four digits", c.x.hangs(0, 1, 9, 0), 1);
+    }
+
+    // Each of them is what it is, and nothing else.
+    private static void everyNumber(Check c) {
+        for (int number = 0; number <= 9999; number++) {
+            if (number % 40 == 0) {
+                c.fresh();
+            }
+            c.same("grammar with " + number, c.grammar("symbol s out v;prod p:s;rule p 0.v=" + number + ";"), 1);
+            c.same("tree", c.tree("p"), 1);
+            c.same("VALUE", c.x.value(0, 0), number);
+        }
+    }
+
+    // A NUMBER in the place of a SIGN, of which it is the byte; in the place of a kept WORD.
+    private static void numbersAreNoSigns(Check c) {
+        c.grammarFaultAt(2, "symbol s ^59 ");
+        c.grammarFaultAt(2, "symbol s in a ^59 prod");
+        c.grammarFaultAt(2, "symbol s ^302 a;");
+        c.grammarFaultAt(2, S + "prod p ^58 s;");
+        c.grammarFaultAt(2, S + "prod p:s ^59 ");
+        c.grammarFaultAt(2, P + "rule p 0 ^46 b=1;");
+        c.grammarFaultAt(2, P + "rule p 0.b ^61 1;");
+        c.grammarFaultAt(2, R + "1 ^59 ");
+        c.grammarFaultAt(2, R + "1 ^46 b;");
+        c.grammarFaultAt(2, R + "9 ^46 b;");
+        for (int sign : new int[] {'+', '-', '*', '|', '&', '<'}) {
+            c.grammarFaultAt(2, R + "1 ^" + sign + " 2;");
+        }
+        c.told(R + "294+302;", 1);
+        c.told(R + "40+(41);", 1);
+        c.grammarFaultAt(2, R + "40 ^1;");
+        c.grammarFaultAt(2, R + "(1 ^41 ;");
+        c.grammarFaultAt(2, R + "if ^40 1,2,3);");
+        c.grammarFaultAt(2, R + "if(1 ^44 2,3);");
+        c.grammarFaultAt(2, R + "if(1,2 ^44 3);");
+        c.grammarFaultAt(2, R + "if(1,2,3 ^41 ;");
     }
 
     // ---- lines

@@ -93,7 +93,7 @@ public final class TreeEdgesTest {
             "^num", "^max", "^min", "^if", "e^;", "e ^e", "e^,e", "e^.", "e 1 ^2", "e^=1", "e^)", "a^", "a 1^", "a ^e",
             "a^,e", "a(^", "a(^1)", "a(^(e))", "a(^,e)", "a(e^", "a(e 1^", "a(e ^e)", "a(e)^(e)", "a(e)^)", "a(e)^1",
             "a(e)^,", "a(e) ^e", "a(e^;", "a(e^.1)", "b(e,^", "b(e,^)", "b(e,^1)", "b(e ^e)", "b(e,^,e)",
-            "a(^max)", "a(e^(e))"}) {
+            "a(^max)", "a(e^(e))", "a 1 ^40 e)", "a(e 1 ^41 ", "b(e 1 ^44 e)"}) {
             c.treeFaultAt(2, text);
         }
         c.due("no tree by now", c.x.many(3), 0);
