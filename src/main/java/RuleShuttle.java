@@ -328,7 +328,9 @@ public final class RuleShuttle {
         spareWood.link(rules);
         swapWood();
         touched = false;
-        work.reckonAll(rules, wood);
+        work.begin(rules, wood);
+        work.knots.find(wood);
+        work.reckonAll();
         return answer(wood.count);
     }
 
@@ -568,6 +570,7 @@ public final class RuleShuttle {
         work = spareWork;
         spareWork = before;
         work.begin(rules, wood);
+        work.knots.find(wood);
         change.reckon(wood, work, before);
         touched = true;
     }
@@ -1029,6 +1032,9 @@ public final class RuleShuttle {
                 return tape.fail(FAULT_UNKNOWN);
             }
             tape.advance();
+            if (!positionStands()) {
+                return false;
+            }
             occ = seekOcc();
             if (occ == NONE) {
                 return false;
@@ -1044,12 +1050,9 @@ public final class RuleShuttle {
             return good;
         }
 
-        // Stays at the attribute's name, where the faults of an OCC are told.
+        // From a position that stands to the attribute's name, where the faults of an OCC are told.
         private int seekOcc() {
             int position = (int) tape.content;
-            if (!positionStands()) {
-                return NONE;
-            }
             tape.advance();
             if (!tape.isSignOf('.')) {
                 tape.fail(FAULT_PLACE);
@@ -1951,11 +1954,9 @@ public final class RuleShuttle {
         void begin(Grammar rules, Tree tree) {
             g = rules;
             t = tree;
-            knots.find(tree);
         }
 
-        void reckonAll(Grammar rules, Tree tree) {
-            begin(rules, tree);
+        void reckonAll() {
             for (int group = 0; group < knots.groups; group++) {
                 reckonGroup(group);
             }
