@@ -24,6 +24,7 @@ final class Oracle {
         final int place;
 
         Fault(int kind, int place) {
+            super(null, null, false, false);
             this.kind = kind;
             this.place = place;
         }
@@ -34,6 +35,7 @@ final class Oracle {
         final int why;
 
         Refused(int why) {
+            super(null, null, false, false);
             this.why = why;
         }
     }
@@ -164,6 +166,7 @@ final class Oracle {
         int number;
         final List<Sym> sides = new ArrayList<>();
         final Map<Integer, Expr> rules = new TreeMap<>();
+        private final Map<Integer, Set<Integer>> asked = new HashMap<>();
         boolean[][] closed;
         boolean[][] wide;
         List<Integer> plan;
@@ -181,11 +184,17 @@ final class Oracle {
         }
 
         boolean asks(int occ, int on) {
+            return rules.containsKey(occ) && askedBy(occ).contains(on);
+        }
+
+        Set<Integer> askedBy(int occ) {
+            return asked.computeIfAbsent(occ, this::collect);
+        }
+
+        private Set<Integer> collect(int occ) {
             Set<Integer> occs = new TreeSet<>();
-            if (rules.containsKey(occ)) {
-                rules.get(occ).asked(occs);
-            }
-            return occs.contains(on);
+            rules.get(occ).asked(occs);
+            return occs;
         }
     }
 
@@ -196,6 +205,8 @@ final class Oracle {
         int[] visits;
         int[][] visit;
         int block = -1;
+        // Sought once for a grammar: many calls ask them, and they are dear.
+        Rounds rounds;
 
         Sym sym(String name) {
             return syms.stream().filter(s -> s.name.equals(name)).findFirst().orElse(null);
@@ -728,6 +739,13 @@ final class Oracle {
     }
 
     private static Rounds rounds(Gram g) {
+        if (g.rounds == null) {
+            g.rounds = seekRounds(g);
+        }
+        return g.rounds;
+    }
+
+    private static Rounds seekRounds(Gram g) {
         Rounds r = new Rounds();
         for (Sym s : g.syms) {
             r.shades.put(s.number, new LinkedHashSet<>());
@@ -766,8 +784,8 @@ final class Oracle {
         }
         boolean[][] d = new boolean[32][32];
         for (int x : p.rules.keySet()) {
-            for (int y = 0; y < 32; y++) {
-                d[x][y] = p.asks(x, y);
+            for (int y : p.askedBy(x)) {
+                d[x][y] = true;
             }
         }
         for (int c = 1; c < p.sides.size(); c++) {
@@ -906,19 +924,20 @@ final class Oracle {
         return isIn(i) ? i.node.parent : i.node;
     }
 
+    private static int occ(Inst i) {
+        return isIn(i) ? 8 * i.node.place + i.a : i.a;
+    }
+
     private static Expr rule(Inst i) {
         Node t = teller(i);
-        return t == null ? null : t.prod.rules.get(isIn(i) ? 8 * i.node.place + i.a : i.a);
+        return t == null ? null : t.prod.rules.get(occ(i));
     }
 
     private static Set<Inst> asked(Inst i) {
         Set<Inst> set = new LinkedHashSet<>();
-        Expr rule = rule(i);
-        if (rule != null) {
-            Set<Integer> occs = new TreeSet<>();
-            rule.asked(occs);
-            for (int occ : occs) {
-                set.add(teller(i).there(occ));
+        if (rule(i) != null) {
+            for (int on : teller(i).prod.askedBy(occ(i))) {
+                set.add(teller(i).there(on));
             }
         }
         return set;
